@@ -1223,9 +1223,7 @@ public final class DreamMatins {
         static final int WORD = 1;
         static final int NUMBER = 2;
         static final int SIGN = 3;
-        static final int NO_TOKEN = 4;
         private static final int MOST_DIGITS = 4;
-        private static final String SIGNS = ";()+-*/<=";
 
         private final byte[] text = new byte[MOST_BYTES];
         private int length = 0;
@@ -1262,7 +1260,10 @@ public final class DreamMatins {
             } else if (isDigit(text[place])) {
                 readNumber();
             } else {
-                readSign();
+                // A byte that is no token goes as a sign: it can stand nowhere.
+                kind = SIGN;
+                sign = text[place];
+                end++;
             }
         }
 
@@ -1292,13 +1293,6 @@ public final class DreamMatins {
                 end++;
             }
             number = end - place > MOST_DIGITS ? NONE : value;
-        }
-
-        private void readSign() {
-            boolean known = text[place] > 0 && SIGNS.indexOf((char) text[place]) >= 0;
-            kind = known ? SIGN : NO_TOKEN;
-            sign = known ? text[place] : 0;
-            end++;
         }
 
         private static boolean isLetter(int sign) {

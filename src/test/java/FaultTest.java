@@ -110,6 +110,12 @@ public final class FaultTest {
         bad("dreams 1 |foo;", 1);
         bad("dreams 1 |not 1;", 1);
         bad("dreams |foo;", 3);
+        bad("dreams |az;", 3);
+        bad("dreams |fishz;", 3);
+        bad("dreams |A;", 1);
+        bad("dreams |`;", 1);
+        bad("dreams |{;", 1);
+        bad("dreams |:;", 1);
         bad("dreams |or 1;", 3);
         bad("dreams |bass;", 3);
         bad("dreams |dreams;", 3);

@@ -572,6 +572,9 @@ public final class PromiseTest {
         x.hear(1, 5, false);
         C.due("none", -1, () -> x.listen(0));
         C.due("none", 0, () -> x.listen(1));
+        DreamMatins late = Check.with("room 5 0 1;room 7 1 1;bass 0 1 0;dreams night=0 or night=19;");
+        C.due("the 20th night", 20, () -> late.listen(0));
+        C.due("5 or 7 then", 2, () -> late.listen(1));
         C.due("what", NO_SUCH, () -> x.listen(2));
         C.due("what", NO_SUCH, () -> x.listen(-1));
     }
