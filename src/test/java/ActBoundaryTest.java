@@ -59,6 +59,11 @@ public final class ActBoundaryTest {
             t.is(0, () -> t.x.count(7));
             t.is(28, () -> t.x.count(8));
         });
+        B.test(5, "all eight MET, whatever DOORS there are", "room 1 7 7;".repeat(8) + "bass 99 0 0;".repeat(8), t -> {
+            t.is(0, () -> t.x.count(8));
+            t.x.nights(1);
+            t.is(28, () -> t.x.count(8));
+        });
         B.test(5, "all are TIED", MOST_OF_ALL, t -> {
             for (int i = 0; i < 8; i++) {
                 t.x.tie(i, true);

@@ -403,6 +403,7 @@ public final class AheadBoundaryTest {
         B.test(26, "two are UP in one ROOM", ROOM + "bass 50 0 0;bass 50 0 0;", t -> t.is(0, () -> t.x.lonely(1)));
         B.test(26, "each in a ROOM of his own", "room 1 1 1;room 1 1 1;bass 50 0 0;bass 50 0 1;",
             t -> t.is(3, () -> t.x.lonely(1)));
+        B.test(26, "each of eight in a ROOM of his own", eightApart() + "dreams 1;", t -> t.is(255, () -> t.x.lonely(60)));
         B.test(26, "the 60th NIGHT", SIXTIETH, t -> {
             t.is(1, () -> t.x.lonely(60));
             t.is(0, () -> t.x.lonely(59));
@@ -418,6 +419,8 @@ public final class AheadBoundaryTest {
         B.test(27, "NONE: no MONKS", RING, t -> t.is(-1, () -> t.x.crowd(60)));
         B.test(27, "behind 0 NIGHTS, of like ones the least", "room 1 0 0;room 1 1 1;room 1 2 2;bass 0 0 2;bass 0 0 1;",
             t -> t.is(1, () -> t.x.crowd(0)));
+        B.test(27, "of like ones the least: ROOM 0", "room 1 0 0;room 1 1 1;bass 0 0 1;bass 0 0 0;",
+            t -> t.is(0, () -> t.x.crowd(0)));
         B.test(27, "most, though another one is less", "room 1 0 0;room 1 1 1;bass 0 0 0;bass 0 0 1;bass 0 0 1;",
             t -> t.is(1, () -> t.x.crowd(0)));
         B.test(27, "behind 60 NIGHTS", RING + ALWAYS, t -> {
@@ -496,6 +499,8 @@ public final class AheadBoundaryTest {
         B.test(30, "NONE: without MONKS", t -> t.is(-1, () -> t.x.psalm(60)));
         B.test(30, "VERSE 0", "room 0 0 0;" + ALWAYS, t -> t.is(0, () -> t.x.psalm(1)));
         B.test(30, "VERSE 99", "room 99 0 0;" + ALWAYS, t -> t.is(99, () -> t.x.psalm(60)));
+        B.test(30, "eight sing, each one counts", "room 9 0 0;room 3 1 1;" + "bass 0 0 0;bass 0 0 1;".repeat(3)
+            + "bass 0 0 0;bass 0 0 0;dreams 1;", t -> t.is(9, () -> t.x.psalm(60)));
         B.test(30, "of like ones the least", "room 9 0 0;room 3 1 1;bass 50 0 0;bass 50 0 1;", t -> t.is(3, () -> t.x.psalm(1)));
         B.test(30, "by each MONK counted", "room 9 0 0;room 3 1 1;bass 50 0 0;bass 50 0 1;bass 50 0 0;",
             t -> t.is(9, () -> t.x.psalm(1)));
@@ -508,17 +513,22 @@ public final class AheadBoundaryTest {
             });
     }
 
+    /** Eight monks in all rooms of the ring but the first. */
+    private static String eightApart() {
+        StringBuilder house = new StringBuilder(RING);
+        for (int i = 1; i <= 8; i++) {
+            house.append("bass 0 0 ").append(i).append(";");
+        }
+        return house.toString();
+    }
+
     private static void spread() {
         for (int nights : NOT_0_TO_60) {
             B.test(31, "IllegalArgumentException: not 0 to 60, " + nights, PLAIN, t -> t.bad(() -> t.x.spread(nights)));
         }
         B.test(31, "without MONKS 0", RING, t -> t.is(0, () -> t.x.spread(60)));
         B.test(31, "all in one", RING + "bass 0 0 8;".repeat(8), t -> t.is(1, () -> t.x.spread(0)));
-        StringBuilder eight = new StringBuilder(RING);
-        for (int i = 0; i < 8; i++) {
-            eight.append("bass 0 0 ").append(i + 1).append(";");
-        }
-        B.test(31, "each in another: 8", eight + "dreams 1;", t -> {
+        B.test(31, "each in another: 8", eightApart() + "dreams 1;", t -> {
             t.is(8, () -> t.x.spread(0));
             t.is(8, () -> t.x.spread(60));
         });

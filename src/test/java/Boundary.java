@@ -4,8 +4,8 @@ import java.util.TreeSet;
 
 /** Runs tests of boundary cases: each bears the number of its promise and has an object of its own. */
 final class Boundary {
-    /** What an object answers behind so many calls is free, so no test may rest on it. */
-    private static final int MOST_CALLS = 512;
+    /** What an object answers behind 512 calls is free; some calls of a test go uncounted, so the bound is lower. */
+    private static final int MOST_CALLS = 470;
 
     interface Body {
         void look(Case t);

@@ -101,6 +101,11 @@ public final class HeardBoundaryTest {
             t.x.hear(1, 1, true);
             eats(t, 0, -1, 1);
         });
+        B.test(34, "another number than he has: so for each MONK", "room 5 0 0;bass 0 0 0;tenor 0 4 0;dreams voice and fish=4;",
+            t -> {
+                t.x.hear(1, 5, true);
+                eats(t, 9, 1, 1);
+            });
         B.test(34, "a question changes nothing", EATERS, t -> {
             t.x.hear(2, 7, true);
             t.stays(12, () -> t.x.eaten(0));
@@ -191,6 +196,11 @@ public final class HeardBoundaryTest {
             listens(t, 1, 1);
         });
         B.test(35, "the 20th NIGHT", LATE + "19;", t -> listens(t, 20, 2));
+        B.test(35, "the 20th NIGHT from now, whatever was HEARD", LATE + "19;", t -> {
+            t.x.hear(1, 5, true);
+            t.x.hear(3, 5, false);
+            listens(t, 20, 2);
+        });
         B.test(35, "the 21st is too late", LATE + "20;", t -> listens(t, 1, 1));
         B.test(35, "of like ones the first", LATE + "8 or night=11;", t -> listens(t, 9, 2));
         B.test(35, "most unlike: three in a later NIGHT, two in the first",
@@ -273,7 +283,7 @@ public final class HeardBoundaryTest {
         rests("NONE: one wants to be with the other, who wants to be without him",
             "room 1 2 3;room 1 2 3;room 1 2 2;room 1 3 3;bass 0 0 0;tenor 0 0 1;"
                 + "dreams night=0 or voice=0 and met or voice and met=0;", 0, -1);
-        rests("SLEEP 99 by praying, just that", APART + "rests 0;dreams 98<sleep;", 1, 11);
+        rests("SLEEP 99 by praying: UP once without any loss", APART + "tires 50;dreams fish=3 or sleep=99;", 1, 11);
         rests("3 more, no fewer: UP twice by the third", APART + "dreams 1<fish;", 1, 0);
         rests("3 more, not more: UP just once by 3", APART + "dreams 2<fish;", 4, 0);
         rests("9 at most: who has 9 loses by 3 more", "room 1 0 0;room 1 1 1;bass 0 9 0;tenor 0 0 1;dreams 7<fish;", 1, 11);
@@ -282,6 +292,13 @@ public final class HeardBoundaryTest {
         String together = "bass 0 0 0;tenor 0 0 0;dreams fish=3;";
         rests("3 more, if both are UP in one ROOM", ROOM + together, 2, 0);
         rests("3 more for each one, not if they are in two of one VERSE", APART + "dreams fish=3;", 4, 0);
+        String justThree = ROOM + "bass 0 0 0;tenor 0 0 0;tires 1;rests 0;dreams voice and night=0 or voice=0 and (fish=3 "
+            + "or 90<sleep and 0<night and night<4);";
+        rests("just 3 more: together once by FISH is as good as three times UP alone", justThree, 2, 1);
+        B.test(37, "just 3 more for the other one, too", justThree, t -> {
+            t.is(2, () -> t.x.game(1, 0, 0));
+            t.is(10, () -> t.x.game(1, 0, 1));
+        });
         B.test(37, "who is TIED is never UP", APART + "dreams 1<fish;", t -> {
             t.x.tie(0, true);
             t.x.tie(1, true);
@@ -512,6 +529,18 @@ public final class HeardBoundaryTest {
             }
             t.is(-1, () -> t.x.undo());
         });
+        B.test(40, "40 ACTS that are kept, though others came in their place", PLAIN, t -> {
+            int[] sleep = {1};
+            t.times(60, () -> t.x.pray(0, sleep[0]++));
+            t.x.image();
+            t.times(13, () -> t.x.pray(0, sleep[0]++));
+            t.is(true, () -> t.x.restore());
+            t.is(60, () -> t.x.monk(0, 1));
+            t.times(39, () -> t.x.undo());
+            t.is(21, () -> t.x.monk(0, 1));
+            t.is(0, () -> t.x.undo());
+            t.is(20, () -> t.x.monk(0, 1));
+        });
         B.test(40, "no ACTS, if none were kept", PLAIN, t -> {
             t.x.image();
             t.x.nights(1);
@@ -527,6 +556,14 @@ public final class HeardBoundaryTest {
             t.x.restore();
             t.is(8, () -> t.x.count(10));
             eats(t, 12, 4, 0);
+        });
+        B.test(40, "what is HEARD: that it wasn't sung", EATERS, t -> {
+            t.x.hear(2, 7, false);
+            t.x.image();
+            t.x.forget();
+            t.x.hear(2, 7, true);
+            t.x.restore();
+            t.is(1, () -> t.x.eaten(2));
         });
         B.test(40, "STATUS 0 to 2, though they are fewer", PLAIN, t -> {
             Check.read(t.x, "x");

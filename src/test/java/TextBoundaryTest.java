@@ -169,6 +169,16 @@ public final class TextBoundaryTest {
             t.is(1, () -> t.x.house(10));
             t.is(10, () -> t.x.fault());
         });
+        B.test(3, "the first bytes alone: a NUMBER ends with them", t -> {
+            Check.put(t.x, "tires 55;");
+            t.is(1, () -> t.x.house(7));
+            t.is(7, () -> t.x.fault());
+        });
+        B.test(3, "a NUMBER ends with the text, whatever another text had there", t -> {
+            t.is(2, () -> Check.read(t.x, "tires 55;"));
+            t.is(1, () -> Check.read(t.x, "tires 5"));
+            t.is(7, () -> t.x.fault());
+        });
         B.test(3, "a TEXT of 700 bytes", t -> {
             String text = ROOM + " ".repeat(678) + ROOM;
             t.is(700, () -> text.length());
@@ -195,6 +205,11 @@ public final class TextBoundaryTest {
             Check.read(t.x, "room 1 0 0;bass 49 0 0;");
             t.is(20, () -> t.x.count(2));
             t.is(10, () -> t.x.count(3));
+            t.is(0, () -> t.x.up(1, 0));
+        });
+        B.test(3, "all anew: shorter DREAMS", t -> {
+            Check.read(t.x, "room 1 0 0;bass 0 0 0;dreams not 0;");
+            Check.read(t.x, "room 1 0 0;bass 0 0 0;dreams 0;");
             t.is(0, () -> t.x.up(1, 0));
         });
         B.test(3, "all anew: fewer ROOMS and MONKS", t -> {
@@ -279,7 +294,9 @@ public final class TextBoundaryTest {
         fault(1, "a byte that is no TOKEN, right behind a word", "room|A 1 0 0;");
         fault(1, "words are a .. z, ahead of a", "dreams |`;");
         fault(1, "words are a .. z, behind z", "dreams |{;");
-        fault(3, "words are a .. z, with both ends", "dreams |az;");
+        fault(3, "words are a .. z: a", "dreams |a;");
+        fault(3, "words are a .. z: z", "dreams |z;");
+        fault(3, "words are a .. z: z belongs to the word", "dreams |fishz;");
         fault(1, "digits are 0 .. 9, ahead of 0: / is a sign", "room |/ 0 0;");
         fault(1, "digits are 0 .. 9, behind 9", "room |: 0 0;");
         fault(1, "a word is the longest row", "|roomroom 1 0 0;");
@@ -351,6 +368,10 @@ public final class TextBoundaryTest {
         B.test(3, "a DOOR MOD how many ROOMS: 8 of three", "room 0 1 8;" + ROOM + ROOM, t -> {
             t.is(1, () -> t.x.room(0, 1));
             t.is(2, () -> t.x.room(0, 2));
+        });
+        B.test(3, "a DOOR MOD how many ROOMS: the last one's, too", ROOM + ROOM + "room 0 8 7;", t -> {
+            t.is(2, () -> t.x.room(2, 1));
+            t.is(1, () -> t.x.room(2, 2));
         });
         B.test(3, "a DOOR of the only ROOM leads to itself", "room 0 8 7;", t -> {
             t.is(0, () -> t.x.room(0, 1));
@@ -462,8 +483,9 @@ public final class TextBoundaryTest {
         fault(1, "it ends too soon: behind a sign", "dreams 1+|");
         fault(1, "it ends too soon: behind 'not'", "dreams not|");
         fault(1, "it ends too soon: an open parenthesis", "dreams (1|");
-        String longest = " ".repeat(696) + "room|";
-        fault(1, "it ends too soon: at 700", longest);
+        fault(1, "it ends too soon: at 700, a word", " ".repeat(696) + "room|");
+        fault(1, "it ends within a word: at 700", " ".repeat(697) + "|roo");
+        fault(1, "it ends too soon: at 700, a NUMBER", " ".repeat(693) + "tires 5|");
     }
 
     private static void exprFaults() {
